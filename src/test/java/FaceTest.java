@@ -25,7 +25,21 @@ final class FaceTest {
         fields();
         classesInside();
         source();
+        none();
+        gap();
         Due.finish();
+    }
+
+    private static void none() {
+        Due.by("Terms 6", "The constants: `NONE = -1`: There is none.");
+        Due.is("NONE", LeadBalls.NONE, -1);
+    }
+
+    private static void gap() {
+        Due.by("Terms 6", "`GAP = -1000000000000L`: No number is there.");
+        Due.is("GAP", LeadBalls.GAP, -1000000000000L);
+        // It is a long that no int is.
+        Due.is("no int", LeadBalls.GAP == (int) LeadBalls.GAP, false);
     }
 
     private static String told(Method m) {
@@ -37,8 +51,6 @@ final class FaceTest {
     }
 
     private static void face() {
-        Due.is("NONE", LeadBalls.NONE, -1);
-        Due.is("GAP", LeadBalls.GAP, -1000000000000L);
         Due.is("public final", LeadBalls.class.getModifiers(), Modifier.PUBLIC | Modifier.FINAL);
         Constructor<?>[] constructors = LeadBalls.class.getDeclaredConstructors();
         Due.is("constructors", constructors.length, 1);
